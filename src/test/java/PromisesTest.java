@@ -688,9 +688,23 @@ final class PromisesTest {
             x.pass(1);
             x.row(0, 3, 0);
         }
-        due("28 a head comes anew", 2, x.head(6, 3, 3));
-        due("28 a head comes anew", 0, x.of(2, 4));
-        due("28 a head comes anew", 30, x.of(2, 3));
+        headAnew();
+    }
+
+    /** What a HEAD that an undo took away had is not the next one's. */
+    private static void headAnew() {
+        for (int again = 0; again < 2; again++) {
+            x.undo();
+            due("28 a head comes anew", 2, x.head(6, 3, 3));
+            due("28 not shelved", 0, x.shelve(2, true));
+            due("28 due", 30, x.set(2, 1, 4));
+            due("28 no hair", 0, x.of(2, 5));
+            for (int part = 0; part < 4; part++) {
+                due("28 its row", 0, x.row(2, part, 5));
+                x.knot(2, part, 0, 9);
+            }
+            due("28 hairs", 4, x.of(2, 5));
+        }
     }
 
     private static void trace(String of, int... bodies) {
