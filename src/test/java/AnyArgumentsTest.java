@@ -1,7 +1,9 @@
 import java.lang.reflect.Method;
 import java.lang.reflect.Modifier;
+import java.util.ArrayList;
 import java.util.Arrays;
 import java.util.Comparator;
+import java.util.List;
 
 /** No call throws, for any arguments in any state; what is refused, and what is asked, changes nothing. */
 final class AnyArgumentsTest {
@@ -11,9 +13,15 @@ final class AnyArgumentsTest {
     /** What changes the state where it is not refused. */
     private static final String TELLING = " head set drawer knot shelve row feed theatre pass see plan book image undo"
         + " act tape item shift ";
-    private static final int RUNS = 250, CALLS = 512;
+    /** A look takes less than 200 calls, and an object 512. */
+    private static final int RUNS = 250, CALLS = 500, LOOKED = 300;
 
+    private static final Checks CHECKS = new Checks("AnyArgumentsTest");
     private static long seed = 5;
+
+    /** What was called so far, and with what. */
+    private final List<Method> called = new ArrayList<>();
+    private final List<Object[]> with = new ArrayList<>();
 
     private static int below(int n) {
         seed = seed * 6364136223846793005L + 1442695040888963407L;
@@ -31,66 +39,73 @@ final class AnyArgumentsTest {
         return n;
     }
 
-    /** All that can be told of the state, but what HEADS look like: that follows from the rest. */
-    private static long[] state(HairAtATime x) {
-        long[] all = new long[6 * 29 + 40 + 8 + 22 + 6 * 60];
-        int at = 0;
-        for (int p = 0; p < 6; p++) {
-            for (int what = 0; what < 29; what++) {
-                all[at++] = what == 8 ? 0 : x.of(p, what);
-            }
-        }
-        for (int what = 0; what < 40; what++) {
-            all[at++] = x.told(what);
-        }
-        for (int what = 0; what < 8; what++) {
-            all[at++] = x.count(what);
-        }
-        for (int i = 0; i < 20; i++) {
-            all[at++] = x.trace(i);
-        }
-        all[at++] = x.looked();
-        all[at++] = x.wrong();
-        for (int tape = 0; tape < 6; tape++) {
-            for (int i = 0; i < 60; i++) {
-                all[at++] = x.read(tape, i);
-            }
-        }
-        return all;
+    private static Method named(Method[] calls, String name) {
+        return Arrays.stream(calls).filter(call -> call.getName().equals(name)).findFirst().orElseThrow();
     }
 
     private static boolean isRefused(String call, Object answer) {
         return answer instanceof Integer && (Integer) answer < 0 && !call.equals("theatre") && !call.equals("act");
     }
 
+    private static Object answer(HairAtATime x, Method call, Object[] given) {
+        try {
+            return call.invoke(x, given);
+        } catch (ReflectiveOperationException e) {
+            CHECKS.holds(call.getName() + Arrays.toString(given) + " threw " + e.getCause(), false);
+            return null;
+        }
+    }
+
+    /** An object behind the first calls of this run. */
+    private HairAtATime behind(int calls) {
+        HairAtATime x = new HairAtATime();
+        for (int i = 0; i < calls; i++) {
+            answer(x, called.get(i), with.get(i));
+        }
+        return x;
+    }
+
+    /** The latest call changed nothing. */
+    private void latestChangedNothing(Object answer) {
+        int calls = called.size();
+        int look = below(Edges.looks());
+        CHECKS.holds(called.get(calls - 1).getName() + Arrays.toString(with.get(calls - 1)) + " answered " + answer
+            + " and changed nothing", Arrays.equals(Edges.look(look, behind(calls - 1)), Edges.look(look, behind(calls))));
+    }
+
+    private void run(Method[] calls) {
+        HairAtATime x = new HairAtATime();
+        // what is fed next; a line that ends makes a THEATRE of it
+        String text = "";
+        for (int i = 0; i < CALLS; i++) {
+            if (text.isEmpty() && below(60) == 0) {
+                text = "\nwarm 9 p<3;rain " + below(4) + "\n";
+            }
+            Method call = calls[below(calls.length)];
+            Object[] given = Arrays.stream(call.getParameterTypes()).map(AnyArgumentsTest::some).toArray();
+            if (!text.isEmpty()) {
+                char sign = text.charAt(0);
+                text = text.substring(1);
+                call = named(calls, sign == '\n' ? "theatre" : "feed");
+                given = sign == '\n' ? new Object[0] : new Object[] {(int) sign};
+            }
+            called.add(call);
+            with.add(given);
+            Object answer = answer(x, call, given);
+            boolean asks = !TELLING.contains(" " + call.getName() + " ");
+            if (i % 6 == 0 && i < LOOKED && (asks || isRefused(call.getName(), answer))) {
+                latestChangedNothing(answer);
+            }
+        }
+    }
+
     public static void main(String[] args) {
-        Checks checks = new Checks("AnyArgumentsTest");
         Method[] calls = Arrays.stream(HairAtATime.class.getDeclaredMethods())
             .filter(m -> Modifier.isPublic(m.getModifiers()))
             .sorted(Comparator.comparing(Method::getName)).toArray(Method[]::new);
         for (int run = 0; run < RUNS; run++) {
-            HairAtATime x = new HairAtATime();
-            for (int i = 0; i < CALLS; i++) {
-                Method call = calls[below(calls.length)];
-                Object[] given = Arrays.stream(call.getParameterTypes()).map(AnyArgumentsTest::some).toArray();
-                long[] were = i % 8 == 0 ? state(x) : null;
-                Object answer;
-                try {
-                    answer = call.invoke(x, given);
-                } catch (ReflectiveOperationException e) {
-                    checks.holds(call.getName() + Arrays.toString(given) + " threw " + e.getCause(), false);
-                    break;
-                }
-                boolean asks = !TELLING.contains(" " + call.getName() + " ");
-                if (were != null && (asks || isRefused(call.getName(), answer))) {
-                    checks.holds(call.getName() + Arrays.toString(given) + " answered " + answer
-                        + " and changed nothing", Arrays.equals(were, state(x)));
-                }
-                if (below(40) == 0) {
-                    Checks.theatre(x, "warm 9 p<3;rain " + below(4));
-                }
-            }
+            new AnyArgumentsTest().run(calls);
         }
-        checks.end();
+        CHECKS.end();
     }
 }
