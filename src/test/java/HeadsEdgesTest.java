@@ -214,6 +214,15 @@ final class HeadsEdgesTest {
         leaves("promise 6: what 3", NONE, x -> x.drawer(0, 3, 1));
         leaves("promise 6: what 3 ahead of n", NONE, x -> x.drawer(0, 3, 100));
         x = new HairAtATime();
+        for (int d = 0; d < 8; d++) {
+            for (int what = 0; what < 3; what++) {
+                due("promise 6: as it was at first", what == 2 ? 10 : 10 * d, x.drawer(d, what, 99));
+                due("promise 6: 99", 99, x.told(what == 0 ? 20 + d : what == 1 ? 30 + d : 10 + d));
+                due("promise 6: 0", 99, x.drawer(d, what, 0));
+                due("promise 6: what it was, 0", 0, x.drawer(d, what, 1));
+            }
+        }
+        x = new HairAtATime();
         for (int what = 0; what < 3; what++) {
             x.drawer(7, what, 90 + what);
             due("promise 6: becomes n", 90 + what, x.told(what == 0 ? 27 : what == 1 ? 37 : 17));

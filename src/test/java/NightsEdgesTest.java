@@ -73,7 +73,13 @@ final class NightsEdgesTest {
         }
         x = Edges.heads(0, 0, 0, 0, 0, 0);
         due("promise 14: the last HEAD", 0, x.on(60, 15));
+        due("promise 14: the last HEAD by lamp", 0, x.on(60, 25));
         due("promise 14: the last HEAD by day", 0, x.on(60, 35));
+        x.knot(5, 0, 7, 3);
+        due("promise 14: the last HEAD's hair", 1, x.on(2, 15));
+        due("promise 14: the last HEAD by lamp", 30, x.on(2, 25));
+        due("promise 14: the last HEAD by day", 30, x.on(2, 35));
+        due("promise 14: the last HEAD, bald", 0, x.on(3, 35));
         due("promise 14: no HEAD 6", NONE, x.on(0, 16));
         due("promise 14: no HEAD at all", NONE, new HairAtATime().on(0, 10));
         due("promise 14: FALLEN without HEADS", 0, new HairAtATime().on(60, 0));

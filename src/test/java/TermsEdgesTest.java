@@ -237,6 +237,23 @@ final class TermsEdgesTest {
         due("term 1: FALLEN", 2, x.told(2));
     }
 
+    /** "FALLEN: 0 .. 9999": each hair is knotted by a call, so that 512 calls do not lead to its bound. */
+    private static void manyFallen() {
+        one(0, 0, 0);
+        for (int d = 0; d < 8; d++) {
+            x.drawer(d, 2, 99);
+        }
+        for (int night = 0; night < 50; night++) {
+            for (int c = 0; c < 8; c++) {
+                x.knot(0, c, c, 1);
+            }
+            x.pass(1);
+        }
+        due("term 1: FALLEN of 50 times 8", 400, x.told(2));
+        due("term 1: STOCK then", 49, x.told(17));
+        due("term 1: NIGHT then", 50, x.told(0));
+    }
+
     // ---- term 2
 
     /** "All that follows is asked, goes on from how all is (NIGHTS .. beyond 9999, too), and changes nothing." */
@@ -301,6 +318,7 @@ final class TermsEdgesTest {
         off();
         aNight();
         shelvedByNight();
+        manyFallen();
         beyond9999();
         bald();
         EDGES.covers("term", 1, 2);

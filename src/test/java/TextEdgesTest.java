@@ -416,6 +416,13 @@ final class TextEdgesTest {
         due("the sixth holds", 31, x.shade(0, 3, 0));
         due("the sixth holds", 0, x.told(1));
         x = Edges.heads(0);
+        for (int i = 0; i < 4; i++) {
+            due("a long broken one", -110, Checks.theatre(x, "warm 11 " + "p=9|".repeat(23)));
+        }
+        due("a short one behind those", 0, Checks.theatre(x, "warm 9 p<9&c=3"));
+        due("it holds", 39, x.shade(0, 3, 0));
+        due("it does not", 20, x.shade(0, 2, 0));
+        x = Edges.heads(0);
         due("a right one", 0, Checks.theatre(x, "warm 9 p<9;rain 5"));
         due("a broken one", -10 - 13, Checks.theatre(x, "warm 50 p<9;r"));
         due("the one that held holds", 5, x.told(1));
