@@ -272,6 +272,14 @@ final class HeadsEdgesTest {
         changes("promise 8: is not", 1, x -> x.shelve(1, false));
         leaves("promise 8: is not, as it was", 0, x -> x.shelve(0, false));
         leaves("promise 8: is SHELVED, as it was", 1, x -> x.shelve(1, true));
+        x = Edges.heads(0, 0);
+        for (int again = 0; again < 2; again++) {
+            due("promise 8: it was not", 0, x.shelve(1, true));
+            due("promise 8: it was", 1, x.shelve(1, true));
+            due("promise 8: the other one was not", 0, x.shelve(0, false));
+            due("promise 8: it was", 1, x.shelve(1, false));
+            due("promise 8: it was not any more", 0, x.shelve(1, false));
+        }
         for (int no : new int[] {-1, 3, 6, MIN, MAX}) {
             leaves("promise 8: head " + no, NONE, x -> x.shelve(no, true));
             leaves("promise 8: head " + no, NONE, x -> x.shelve(no, false));

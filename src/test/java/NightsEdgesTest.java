@@ -81,6 +81,18 @@ final class NightsEdgesTest {
         due("promise 14: the last HEAD by day", 30, x.on(2, 35));
         due("promise 14: the last HEAD, bald", 0, x.on(3, 35));
         due("promise 14: no HEAD 6", NONE, x.on(0, 16));
+        x = Edges.heads(0, 0, 0, 0, 0, 0);
+        int[] lamp = {30, 20, 10, 0, 10, 20};
+        int[] day = {58, 57, 56, 55, 54, 53};
+        for (int p = 0; p < 6; p++) {
+            x.drawer(p + 1, 1, 98 - p);
+            x.knot(p, 7, p + 1, 9);
+            due("promise 14: hairs of HEAD " + p, 1, x.on(8, 10 + p));
+            due("promise 14: HEAD " + p + " by lamp", lamp[p], x.on(8, 20 + p));
+            due("promise 14: HEAD " + p + " by day", day[p], x.on(8, 30 + p));
+            due("promise 14: HEAD " + p + ", bald", 0, x.on(9, 30 + p));
+        }
+        due("promise 14: FALLEN of all", 6, x.on(9, 0));
         due("promise 14: no HEAD at all", NONE, new HairAtATime().on(0, 10));
         due("promise 14: FALLEN without HEADS", 0, new HairAtATime().on(60, 0));
     }
@@ -234,6 +246,14 @@ final class NightsEdgesTest {
         inTime("by DUE, not by number", 1, 0b11);
         dues(30, 7);
         inTime("the other one alone", 1, 0b01);
+        dues(15, 8);
+        inTime("the second is ahead of the first, which is late then", 1, 0b01);
+        dues(16, 8);
+        inTime("the second is ahead of the first", 1, 0b11);
+        dues(23, 8, 16);
+        inTime("both ahead of the first, which is late then", 1, 0b011);
+        dues(24, 16, 8);
+        inTime("one behind the other, from the last on", 1, 0b111);
         dues(15, 16);
         inTime("8 and 16", 1, 0b11);
         dues(15, 15);
@@ -365,6 +385,16 @@ final class NightsEdgesTest {
         x.see(1, 0, 77);
         can("what is of another", 0, 0, 1, 40);
         can("the other", 1, 0, 0, NOT_ANY);
+        x.knot(1, 0, 5, 9);
+        can("the other, HERS would be below 0, or 127", 1, 0, 0, NOT_ANY);
+        x.see(-1, 0, 0);
+        x.see(1, 0, 7);
+        can("the other, 43 and 57", 1, 0, 2, 43);
+        can("what is of another", 0, 0, 100, 0);
+        x.see(0, 0, 0);
+        x.see(1, 1, 7);
+        can("the other, 43 and 57 by both", 1, 0, 2, 43);
+        can("30", 0, 0, 1, 30);
         seen(4, 40, 5, 0, 0);
         can("a PARTING's SHADE is HERS by lamp", 0, 0, 100, 0);
         seen(4, 40, 5, 0, 1);
