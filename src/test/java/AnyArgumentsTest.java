@@ -5,7 +5,10 @@ import java.util.Arrays;
 import java.util.Comparator;
 import java.util.List;
 
-/** No call throws, for any arguments in any state; what is refused, and what is asked, changes nothing. */
+/**
+ * No call throws, for any arguments in any state; what is refused, and what is asked, changes nothing. What is answered
+ * behind 512 calls is free, but LANGUAGE.md (7) wants that no call throws there either.
+ */
 final class AnyArgumentsTest {
     private static final int[] NUMBERS = {Integer.MIN_VALUE, Integer.MIN_VALUE + 1, -10001, -100, -14, -8, -5, -4, -3,
         -2, -1, 0, 1, 2, 3, 4, 5, 6, 7, 8, 9, 10, 11, 12, 17, 18, 20, 25, 27, 28, 30, 31, 36, 38, 59, 60, 61, 99, 100,
@@ -15,6 +18,7 @@ final class AnyArgumentsTest {
         + " act tape item shift ";
     /** A look takes less than 200 calls, and an object 512. */
     private static final int RUNS = 250, CALLS = 500, LOOKED = 300;
+    private static final int LONG_RUNS = 4, LONG_CALLS = 30000;
 
     private static final Checks CHECKS = new Checks("AnyArgumentsTest");
     private static long seed = 5;
@@ -73,6 +77,17 @@ final class AnyArgumentsTest {
             + " and changed nothing", Arrays.equals(Edges.look(look, behind(calls - 1)), Edges.look(look, behind(calls))));
     }
 
+    /** Far behind 512 calls: what is answered there is not looked at. */
+    private static void longRun(Method[] calls) {
+        HairAtATime x = new HairAtATime();
+        for (int i = 0; i < LONG_CALLS; i++) {
+            Method call = i < 6 ? named(calls, "head") : calls[below(calls.length)];
+            Object[] given = i < 6 ? new Object[] {i + 1, i, 9 * i}
+                : Arrays.stream(call.getParameterTypes()).map(AnyArgumentsTest::some).toArray();
+            CHECKS.holds(call.getName() + " answers, call " + i, answer(x, call, given) != null);
+        }
+    }
+
     private void run(Method[] calls) {
         HairAtATime x = new HairAtATime();
         // what is fed next; a line that ends makes a THEATRE of it
@@ -105,6 +120,9 @@ final class AnyArgumentsTest {
             .sorted(Comparator.comparing(Method::getName)).toArray(Method[]::new);
         for (int run = 0; run < RUNS; run++) {
             new AnyArgumentsTest().run(calls);
+        }
+        for (int run = 0; run < LONG_RUNS; run++) {
+            longRun(calls);
         }
         CHECKS.end();
     }

@@ -140,6 +140,23 @@ final class HeadsEdgesTest {
         due("promise 3: NEAR, DRAWER 0 alone", 0, x.of(0, 9));
         x.knot(0, 0, 0, 1);
         due("promise 3: NEAR, its last hair knotted", NOT_ANY, x.of(0, 9));
+        x = Edges.heads(0);
+        for (int c = 0; c < 8; c++) {
+            x.knot(0, c, c, 1);
+        }
+        due("promise 3: NEAR of a HEAD that is full", 4, x.of(0, 9));
+        x.shelve(0, true);
+        due("promise 3: NEAR of one that is SHELVED", 4, x.of(0, 9));
+        due("promise 3: NEAR of a PARTING, HERS by lamp, 5 apart by day", 3, nearOfParting());
+    }
+
+    /** By day 5 more: 35 and 45 are as far from 40; by lamp none is. */
+    private static int nearOfParting() {
+        HairAtATime y = Edges.heads(4);
+        y.drawer(4, 1, 20);
+        y.drawer(5, 0, 0);
+        y.drawer(5, 1, 40);
+        return y.of(0, 9);
     }
 
     /** "SHADE of a DRAWER on a HEAD by a LIGHT. -10001: NONE." */

@@ -169,6 +169,13 @@ final class NightsEdgesTest {
         due("promise 15: by day, v more", 0, x.mix(0, 1, 1, 0));
         due("promise 15: by day, v more", 0, x.mix(0, 1, 1, -1));
         due("promise 15: by lamp", 1, x.mix(0, 0, 1, 0));
+        x = of(0, 0, 34);
+        for (int c = 0; c < 8; c++) {
+            x.knot(0, c, 0, 1);
+        }
+        mix("whatever hair it has: it is full", 2, 0, 7);
+        x.shelve(0, true);
+        mix("whether it is SHELVED or not", 4, 3);
     }
 
     /** "k -1 how much they are apart, else the k-th (k beyond the row: -5); -5. NONE: head, light, k (-1 .. 3); BAD: n." */
@@ -279,6 +286,14 @@ final class NightsEdgesTest {
             }
         }
         inTime("most HEADS, though the first could be", 1, 0b110);
+        x.shelve(1, true);
+        x.shelve(2, true);
+        inTime("SHELVED ones too", 1, 0b110);
+        dues(8, 16);
+        stock(0, 0, 0, 0, 0, 0, 0, 0);
+        inTime("whatever STOCK there is", 1, 0b11);
+        x.pass(60);
+        inTime("begun on this NIGHT", 1, 0b11);
     }
 
     /** "What is SEEN comes: how many (head -1: none then, 0, ..). NONE: head, light; BAD: off; FULL: 5." */
@@ -339,6 +354,23 @@ final class NightsEdgesTest {
             due("promise 18: OFF 10, SEEN " + off, off == 10 ? NOT_ANY : 0, x.wrong());
         }
         leaves("promise 18: of HEAD 0, which has another hair now", 0, HairAtATime::wrong);
+        x = of(3, 0, 30);
+        x.knot(0, 0, 3, 9);
+        x.see(0, 0, 2);
+        for (int night = 0; night < 4; night++) {
+            due("promise 18: an OLD one by NIGHT " + night, night == 2 ? NOT_ANY : 0, x.wrong());
+            x.pass(1);
+        }
+        x = of(0, 0, 30);
+        x.knot(0, 0, 3, 9);
+        x.see(0, 0, 6);
+        due("promise 18: not 6 OFF yet", 0, x.wrong());
+        Checks.theatre(x, "cool 6 n=0");
+        due("promise 18: 6 OFF by the THEATRE", NOT_ANY, x.wrong());
+        x.shelve(0, true);
+        due("promise 18: SHELVED or not", NOT_ANY, x.wrong());
+        x.pass(1);
+        due("promise 18: not by that NIGHT", 0, x.wrong());
     }
 
     /** All that can(head, which, ..) says. */
@@ -401,6 +433,21 @@ final class NightsEdgesTest {
         can("a PARTING by lamp, 1 OFF", 0, 0, 0, NOT_ANY);
         seen(4, 40, 5, 1, 0);
         can("a PARTING by day", 0, 0, 1, 55);
+        seen(1, 40, 5, 1, 0);
+        can("a FRONT by day, v 5", 0, 0, 1, 55);
+        seen(2, 40, 5, 0, 0);
+        can("a BACK", 0, 0, 1, 25);
+        seen(5, 40, 5, 0, 1);
+        can("a NAPE, 34 and 36", 0, 0, 2, 34);
+        x = of(0, 5, 40);
+        for (int c = 0; c < 8; c++) {
+            x.knot(0, c, c, 9);
+        }
+        x.see(0, 0, 40);
+        can("280 and eight times HERS are 40 apart", 0, 0, 2, 30);
+        x.see(-1, 0, 0);
+        x.see(0, 0, 41);
+        can("280 and eight times HERS are never 41 apart", 0, 0, 0, NOT_ANY);
     }
 
     /** "CAN of a HEAD: how many numbers v (0 .. 9) likewise; the least (-5: none)." */
@@ -427,6 +474,12 @@ final class NightsEdgesTest {
         x.see(-1, 0, 0);
         x.see(0, 0, 0);
         can("v 0 .. 8, by a TEST", 0, 1, 9, 0);
+        seen(4, 40, 0, 0, 0);
+        can("a PARTING, any v by lamp", 0, 1, 10, 0);
+        seen(4, 4, 0, 1, 3);
+        can("a PARTING by day, 1 and 7", 0, 1, 2, 1);
+        seen(5, 10, 0, 1, 0);
+        can("a NAPE, whatever v is", 0, 1, 10, 0);
         due("promise 19: its v is as it was", 5, x.of(0, 1));
         x = Edges.heads(1, 1);
         x.see(1, 1, 7);

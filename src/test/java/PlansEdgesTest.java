@@ -92,6 +92,12 @@ final class PlansEdgesTest {
         x.plan(3, 0);
         x.plan(0, 0);
         ends("it is not any more, and the other was not", 1, 1);
+        x.plan(-1, 0);
+        x.plan(1, 1);
+        ends("one that is SHELVED has no hair", 0, 1);
+        x.plan(3, 1);
+        x.plan(0, 0);
+        ends("none of that falls out", 0, 1);
         due("promise 23: nothing has gone", 2, x.told(3));
         due("promise 23: it is SHELVED still", 1, x.of(1, 4));
         for (int no : new int[] {-1, 2, MIN, MAX}) {
@@ -306,6 +312,17 @@ final class PlansEdgesTest {
         due("promise 28: the one that held: RAIN", 3, x.told(1));
         due("promise 28: the one that held: SUM", 14, x.shade(0, 1, 0));
         due("promise 28: there are three", 3, x.count(1));
+        x.knot(0, 0, 0, 9);
+        x.pass(2);
+        due("promise 28: the one that held: NIGHT 0 is wet, 1 is dry", 6, x.of(0, 20));
+        x.pass(1);
+        due("promise 28: the one that held: NIGHT 2 is dry", 5, x.of(0, 20));
+        x.knot(0, 1, 0, 2);
+        due("promise 28: the one that held: ON NIGHT 3, which is wet", 1, x.on(1, 10));
+        due("promise 28: the one that held: BALD, 5 3 2 1 and out", 4, x.of(0, 8));
+        x.plan(0, 0);
+        due("promise 28: the one that held: ENDS", 1, x.ends(0));
+        x.undo();
         for (int i = 3; i < 6; i++) {
             due("promise 28: more", i, Checks.theatre(x, "rain 9"));
             x.undo();
