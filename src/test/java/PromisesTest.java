@@ -6,7 +6,7 @@ final class PromisesTest {
     private static HairAtATime x;
 
     private static void due(String call, long want, long got) {
-        CHECKS.due(call, want, got);
+        CHECKS.due("promise " + call, want, got);
     }
 
     /** A new object with HEADS of these KINDS, v 5, HERS 40. */

@@ -12,6 +12,7 @@ import java.util.TreeSet;
 import java.util.regex.Matcher;
 import java.util.regex.Pattern;
 import java.util.stream.Collectors;
+import java.util.stream.Stream;
 
 /** The class keeps to the document's face, and to what can be looked at of LANGUAGE.md. */
 final class RulesTest {
@@ -45,6 +46,7 @@ final class RulesTest {
             } else {
                 face.add(method.getReturnType() + " " + method.getName() + "(" + types + ")");
                 names.add(method.getName());
+                CHECKS.holds(method + " is public, and no more", Modifier.toString(method.getModifiers()).equals("public"));
             }
         }
         CHECKS.due("how many calls", 35, face.size());
@@ -54,14 +56,18 @@ final class RulesTest {
         Set<String> fields = new TreeSet<>();
         for (Field field : HairAtATime.class.getDeclaredFields()) {
             if (!isHidden(field.getModifiers())) {
-                fields.add(field.getName());
+                fields.add(field.getType() + " " + field.getName());
                 CHECKS.holds(field + " is a constant", Modifier.toString(field.getModifiers())
                     .equals("public static final"));
             }
         }
-        CHECKS.holds("the constants: " + fields, fields.equals(Set.of("NONE", "BAD", "STATE", "FULL", "NO")));
+        CHECKS.holds("the constants: " + fields, fields.equals(
+            Set.of("int NONE", "int BAD", "int STATE", "int FULL", "long NO")));
         Constructor<?>[] made = HairAtATime.class.getDeclaredConstructors();
         CHECKS.holds("one constructor", made.length == 1 && made[0].getParameterCount() == 0);
+        CHECKS.holds("it is public", Modifier.isPublic(made[0].getModifiers()));
+        CHECKS.due("no class above it", 1, HairAtATime.class.getSuperclass() == Object.class ? 1 : 0);
+        CHECKS.due("no interfaces", 0, HairAtATime.class.getInterfaces().length);
         CHECKS.holds("public and final", Modifier.toString(HairAtATime.class.getModifiers()).equals("public final"));
     }
 
@@ -74,7 +80,31 @@ final class RulesTest {
             long fields = Arrays.stream(one.getDeclaredFields())
                 .filter(field -> !Modifier.isStatic(field.getModifiers())).count();
             CHECKS.holds(one + " has some twenty fields", fields <= 20);
+            members(one);
         }
+        members(HairAtATime.class);
+    }
+
+    /** Static fields are final, of the types that may be; a method takes at most seven parameters. */
+    private static void members(Class<?> one) {
+        Set<Class<?>> types = Set.of(int.class, long.class, boolean.class, char.class, String.class, int[].class,
+            long[].class, char[].class, byte[].class);
+        for (Field field : one.getDeclaredFields()) {
+            if (Modifier.isStatic(field.getModifiers())) {
+                CHECKS.holds(field + " is final", Modifier.isFinal(field.getModifiers()));
+                CHECKS.holds(field + " is a constant", types.contains(field.getType()));
+            }
+        }
+        for (Method method : one.getDeclaredMethods()) {
+            CHECKS.holds(method + " takes at most seven", method.getParameterCount() <= 7);
+        }
+        CHECKS.holds(one + " holds numbers, texts and classes of its own alone", Stream.of(one.getDeclaredFields())
+            .allMatch(field -> isAllowed(field.getType())));
+    }
+
+    private static boolean isAllowed(Class<?> type) {
+        Class<?> of = type.isArray() ? type.getComponentType() : type;
+        return of.isPrimitive() || of == String.class || of.getEnclosingClass() == HairAtATime.class;
     }
 
     private static void source() throws IOException {
