@@ -1157,19 +1157,9 @@ public final class HairAtATime {
             if (depth < MOST_DEPTH && text.takes('(')) {
                 return takesE(text, into, depth + 1) && text.takes(')');
             }
-            return takesTest(text, into);
-        }
-
-        private static boolean takesTest(Text text, Theatre into) {
             int letter = text.takesOneOf(LETTERS);
-            if (letter < 0) {
-                return false;
-            }
-            int sign = text.takesOneOf(SIGNS);
-            if (sign < 0) {
-                return false;
-            }
-            int n = text.takesNumber();
+            int sign = letter < 0 ? -1 : text.takesOneOf(SIGNS);
+            int n = sign < 0 ? -1 : text.takesNumber();
             if (n < 0) {
                 return false;
             }
